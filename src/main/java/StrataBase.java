@@ -601,7 +601,7 @@ public final class StrataBase {
             return first[clause + 1] - first[clause] > 1;
         }
 
-        /** The fact that an atom is, when variables are replaced by the constants of these ranks. */
+        /** The fact that an atom is, when its variables are constants of these ranks. */
         long keyOf(int literal, int[] values) {
             long key = 0;
             for (int column = 0; column < sizes[literal]; column++) {
@@ -672,7 +672,6 @@ public final class StrataBase {
             clauses.clear();
             predicates.clear();
             constants.clear();
-            strataCount = 0;
             Arrays.fill(sizes, NONE);
         }
 
@@ -877,7 +876,6 @@ public final class StrataBase {
 
         private void begin() {
             code = 0;
-            place = NONE;
             target.clear();
             ownPredicates.clear();
             beginBody();
@@ -1740,8 +1738,6 @@ public final class StrataBase {
 
     /** Finds all values of a body's variables with which it is so. */
     private static final class Join {
-        // Beside the variables' bits in an outcome: something was found.
-        private static final int FOUND = 1 << Clauses.VARIABLE_LIMIT;
         private static final int UNCONNECTED = 1 << 28;
 
         final int[] values;
@@ -1859,7 +1855,8 @@ public final class StrataBase {
                 step.literal = literal;
                 step.freshOnly = fresh;
                 step.bound = bound;
-                step.scans = clauses.kinds[literal] == Clauses.ATOM && (fresh || (mask & ~bound) != 0);
+                step.scans = clauses.kinds[literal] == Clauses.ATOM
+                    && (fresh || (mask & ~bound) != 0);
                 bound |= mask;
                 left &= ~(1 << literal - from);
                 stepCount++;
@@ -1919,23 +1916,23 @@ public final class StrataBase {
         }
 
         /**
-         * Works from a step on. The outcome names the variables on whose values it hangs: with the
-         * same values of these, the same rows are found, or none. So a scan need not try other
-         * values that its outcome does not hang on.
+         * Works from a step on, and tells on which variables its finds hang: where these have the
+         * same values, nothing is found that was not found now. So a scan need not go on when what
+         * it gives is not among them.
          */
         private int solve(int from) {
-            int tested = 0;
             int at = from;
             while (at < stepCount && !steps[at].scans) {
-                int mask = clauses.masks[steps[at].literal];
                 if (!holds(steps[at].literal)) {
-                    return mask;
+                    return clauses.masks[steps[at].literal];
                 }
-                tested |= mask;
                 at++;
             }
-            int outcome = at < stepCount ? scan(at) : emit();
-            return (outcome & FOUND) != 0 ? outcome | tested : outcome;
+            if (at < stepCount) {
+                return scan(at);
+            }
+            emit();
+            return output;
         }
 
         private int scan(int at) {
@@ -1946,15 +1943,11 @@ public final class StrataBase {
             int position = step.sought == 0 ? step.from : indexes.seek(step.from, step.to, sought);
             while (position < step.to && indexes.at(position) >> shift == sought >> shift) {
                 step.give(indexes.at(position), values);
-                int outcome = solve(at + 1);
-                boolean found = (outcome & FOUND) != 0;
-                if ((outcome & step.givenMask) == 0) {
-                    return found ? outcome | step.soughtMask : outcome;
+                int below = solve(at + 1);
+                if (stopped || (below & step.givenMask) == 0) {
+                    return below;
                 }
-                hangsOn |= outcome & ~step.givenMask;
-                if (stopped || found && (output & ~step.bound) == 0) {
-                    return hangsOn;
-                }
+                hangsOn |= below & ~step.givenMask;
                 position++;
             }
             return hangsOn;
@@ -1973,7 +1966,7 @@ public final class StrataBase {
             return there == (kind == Clauses.ATOM);
         }
 
-        private int emit() {
+        private void emit() {
             if (head == NONE) {
                 rows.add(values);
                 stopped = rows.full;
@@ -1981,7 +1974,6 @@ public final class StrataBase {
                 facts.add(clauses.predicates[head], clauses.keyOf(head, values), stage);
                 stopped = facts.full;
             }
-            return output | FOUND;
         }
     }
 }

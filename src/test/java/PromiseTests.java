@@ -20,6 +20,7 @@ public final class PromiseTests {
         faultOrder();
         new PromiseTests().fault();
         new PromiseTests().run();
+        new PromiseTests().runMany();
         new PromiseTests().runOverflow();
         new PromiseTests().ask();
         new PromiseTests().askForeign();
@@ -92,6 +93,21 @@ public final class PromiseTests {
         due("load", base.load(), -1);
         due("clauses", base.count(0), 2);
         due("the tape is empty", thrownByEnd(1), 2);
+        cutBehind("p :- q.", 3, 1, 2);
+        cutBehind("p :- 1 != 2.", 8, 1, 7);
+        cutBehind("p :- 1 <= 2.", 8, 2, 8);
+        cutBehind("p(-1).", 3, 1, 2);
+        cutBehind("p(X) :- q(X), not r.", 17, 2, 17);
+        cutBehind("p. % x\nq", 6, 0, -1);
+        cutBehind("p(12). p(12345678901).", 19, 2, 19);
+    }
+
+    /** What stood behind the end is no longer on the tape. */
+    private void cutBehind(String text, int length, int code, int place) {
+        put(text);
+        base.end(length);
+        due(text + " up to " + length, base.load(), place);
+        due("fault of " + text + " up to " + length, base.fault(), code);
     }
 
     // ---------------------------------------------------------------- promise 4 and the text
@@ -393,6 +409,26 @@ public final class PromiseTests {
         due("negation", base.run(), 3 + 3 + 1 + 2);
         due("least", ask("least(X)"), 1);
         due("least", base.number(0, 0), 1);
+    }
+
+    /** Many facts, so that what is kept to find them has to grow and to be made anew. */
+    private void runMany() {
+        StringBuilder chain = new StringBuilder();
+        for (int i = 0; i < 140; i++) {
+            chain.append("e(").append(i).append(',').append(i + 1).append(").");
+        }
+        String[] rules = {"t(X,Z):-t(X,Y),t(Y,Z).", "t(X,Z):-t(X,Y),e(Y,Z).", "t(X,Z):-e(X,Y),t(Y,Z).",
+            "t(X,Z):-t(X,Y),t(Y,Z),not z(X). t(X,Z):-e(X,Y),t(Y,Z),t(X,Y). z(a)."};
+        int[] stages = {9, 140, 140, 9};
+        for (int i = 0; i < rules.length; i++) {
+            load(chain + "t(X,Y):-e(X,Y)." + rules[i] + "back(X,Y):-t(Y,X),not t(X,Y).");
+            due(rules[i], base.run(), i == 3 ? 19881 : 19880);
+            due(rules[i] + " stages", base.count(6), stages[i]);
+            due(rules[i] + " stage", stage("t(0,140)"), stages[i]);
+            due(rules[i] + " between", ask("t(0,X),t(X,Y),t(Y,50),back(50,X)"), 1176);
+            due(rules[i] + " ends", ask("t(X,Y),back(Y,Z),t(Z,W),W=2,Y=140"), 280);
+            due(rules[i] + " all", ask("t(X,_),t(_,X),back(X,_),back(_,X),t(_,_),back(_,_)"), 139);
+        }
     }
 
     private void runOverflow() {
