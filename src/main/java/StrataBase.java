@@ -1134,38 +1134,37 @@ public final class StrataBase {
         }
 
         private void addAtomConstant() {
-            int code = 0;
+            int constant;
             if (mode == PROGRAM) {
-                code = program.constants.intern(
+                constant = program.constants.intern(
                     tokens.text, tokens.start, tokens.nameLength(), tokens.value);
-                if (code == NONE) {
-                    stop(TOO_MANY, tokens.start);
-                    return;
-                }
             } else {
-                code = program.constants.search(
+                int rank = program.constants.search(
                     tokens.text, tokens.start, tokens.nameLength(), tokens.value);
-                foreign |= code < 0;
-                code = Math.max(code, 0);
+                foreign |= rank < 0;
+                constant = Math.max(rank, 0);
             }
-            target.add(Clauses.CONSTANT + code);
-            state = TERM_END;
+            addConstant(constant, tokens.start, TERM_END);
         }
 
         private void addSideConstant(int from, int length, int value, int nextState) {
-            int code = 0;
+            int constant;
             if (mode == PROGRAM) {
-                code = program.constants.intern(tokens.text, from, length, value);
-                if (code == NONE) {
-                    stop(TOO_MANY, from);
-                    return;
-                }
+                constant = program.constants.intern(tokens.text, from, length, value);
             } else {
                 int rank = program.constants.search(tokens.text, from, length, value);
-                code = rank >= 0 ? Clauses.codeOfRank(rank) : 2 * ~rank;
+                constant = rank >= 0 ? Clauses.codeOfRank(rank) : 2 * ~rank;
                 sides.intern(tokens.text, from, length, value);
             }
-            target.add(Clauses.CONSTANT + code);
+            addConstant(constant, from, nextState);
+        }
+
+        private void addConstant(int constant, int where, int nextState) {
+            if (constant == NONE) {
+                stop(TOO_MANY, where);
+                return;
+            }
+            target.add(Clauses.CONSTANT + constant);
             state = nextState;
         }
 
