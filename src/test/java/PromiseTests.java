@@ -213,6 +213,7 @@ public final class PromiseTests {
         refused("p :- not not q.", 2, 9);
         refused("p :- not X.", 2, 9);
         refused("p :- not 1 = 1.", 2, 9);
+        refused("p :- not a = b.", 2, 11);
         refused("p :- X.", 2, 6);
         refused("p :- 1.", 2, 6);
         refused("p :- 1, q.", 2, 6);
