@@ -12,6 +12,7 @@ public final class FaceTests {
     private static int wrong = 0;
 
     public static void main(String[] args) {
+        Bench.watch();
         methods();
         fieldsAndConstructors();
         insideClasses();
@@ -141,12 +142,25 @@ public final class FaceTests {
         return out.toString();
     }
 
-    /** What a new object takes, and that calls hardly take more: one run has room for 7.3 million. */
+    /** What an object keeps when it has been filled to the document's limits fits a run's room. */
     private static void room() {
         StrataBase base = new StrataBase();
-        long[] fresh = elements(base);
-        due("a new object's elements are below 400000", fresh[1] < 400000, true);
-        due("a new object's parts are below 200", fresh[0] < 200, true);
+        put(base, Bench.facts("n", 100) + "d(X,Y):-n(X),n(Y).f(X,Y):-n(X),n(Y),X!=Y.");
+        due("load", base.load(), -1);
+        due("run", base.run(), 20000);
+        put(base, "d(X,Y),f(Y,Z),f(Z,X),X<Y,Y<3");
+        due("ask", base.ask(), 3 * 98);
+        long[] kept = elements(base);
+        due("objects and arrays are below 600000", kept[0] < 600000, true);
+        due("fields and elements are below 7300000", kept[1] < 7300000, true);
+    }
+
+    private static void put(StrataBase base, String text) {
+        for (int at = 0; at < text.length(); at += 20) {
+            base.feed(Bench.wordAt(text, at), Bench.wordAt(text, at + 4), Bench.wordAt(text, at + 8),
+                Bench.wordAt(text, at + 12), Bench.wordAt(text, at + 16));
+        }
+        base.end(text.length());
     }
 
     private static long[] elements(Object object) {
