@@ -1615,13 +1615,10 @@ public final class StrataBase {
         }
     }
 
-    /** A question's rows, each once; a row is the ranks of its columns in two longs. */
+    /** A question's rows; a row is the ranks of its columns in two longs. */
     private static final class Rows {
         private static final int LIMIT = 5000;
         private static final int HALF = 6;
-        private static final int SLOT_BITS = 13;
-        private static final int SLOTS = 1 << SLOT_BITS;
-        private static final long SPREAD = 0x9E3779B97F4A7C15L;
         private static final int[] GAPS = {1750, 701, 301, 132, 57, 23, 10, 4, 1};
 
         int size;
@@ -1629,13 +1626,11 @@ public final class StrataBase {
         boolean full;
         private final long[] left;
         private final long[] right;
-        private final int[] slots;
         private final int[] variables;
 
         Rows() {
             left = new long[LIMIT];
             right = new long[LIMIT];
-            slots = new int[SLOTS];
             variables = new int[Clauses.VARIABLE_LIMIT];
         }
 
@@ -1644,7 +1639,6 @@ public final class StrataBase {
             size = 0;
             width = 0;
             full = false;
-            Arrays.fill(slots, 0);
             for (int variable = 0; variable < variableCount; variable++) {
                 if ((anonymous >> variable & 1) == 0) {
                     variables[width] = variable;
@@ -1670,21 +1664,18 @@ public final class StrataBase {
             return mask;
         }
 
+        /**
+         * No row comes twice: an index holds each part once, and leaves out only the variables _,
+         * so that two ways through a question differ in a column.
+         */
         void add(int[] values) {
-            long first = keyOf(values, 0);
-            long second = keyOf(values, HALF);
-            int slot = slotOf(first, second);
-            if (slots[slot] != 0) {
-                return;
-            }
             if (size == LIMIT) {
                 full = true;
                 return;
             }
-            left[size] = first;
-            right[size] = second;
+            left[size] = keyOf(values, 0);
+            right[size] = keyOf(values, HALF);
             size++;
-            slots[slot] = size;
         }
 
         void sort() {
@@ -1718,20 +1709,6 @@ public final class StrataBase {
                 key |= (long) values[variables[column]] << 50 - 10 * (column - from);
             }
             return key;
-        }
-
-        private int slotOf(long first, long second) {
-            long mixed = (first ^ first >>> 29) * SPREAD + second;
-            int slot = (int) ((mixed ^ mixed >>> 31) * SPREAD >>> 64 - SLOT_BITS);
-            // There are more slots than rows, so an empty one is met.
-            for (int tries = 0; tries < SLOTS; tries++) {
-                int row = slots[slot] - 1;
-                if (row < 0 || left[row] == first && right[row] == second) {
-                    return slot;
-                }
-                slot = slot + 1 & SLOTS - 1;
-            }
-            return slot;
         }
     }
 
@@ -1865,7 +1842,7 @@ public final class StrataBase {
         private int nextLiteral(int from, int left, int bound) {
             int best = from;
             int least = 2 * UNCONNECTED;
-            for (int i = 0; i <= Clauses.BODY_LIMIT; i++) {
+            for (int i = 0; i < Clauses.BODY_LIMIT; i++) {
                 if ((left >> i & 1) != 0) {
                     int cost = costOf(from + i, bound);
                     if (cost < least) {

@@ -140,7 +140,12 @@ public final class FaultTests {
         Bench.refusedAlone("p :- not q. q. q :- r, s. s :- t, p.", 12, 5);
         Bench.refusedAlone("p :- not q. q :- a = b, r. r :- not s. s :- not t, p.", 12, 5);
         Bench.refusedAlone("q :- a. p :- not q. q :- p.", 12, 13);
+        Bench.refusedAlone("p :- not q. q :- p, r, s.", 12, 5);
+        Bench.refusedAlone("p :- not q. q :- not p, not r.", 12, 5);
+        Bench.refusedAlone("p :- not q. q :- p. q :- r. q :- s, t.", 12, 5);
+        Bench.refusedAlone("q :- r, s. r :- p, s. p :- not q, s.", 12, 27);
         Bench.taken("p :- not q. q :- p = r, r != p.");
+        Bench.taken(Bench.numbered("p", 0, 63, ":-1=1.") + "p63:-not p0, 1=1.");
         Bench.taken("p :- not q(p). q(p) :- r(p).");
         StringBuilder chain = new StringBuilder();
         for (int i = 0; i < 63; i++) {

@@ -11,6 +11,7 @@ public final class FollowTests {
         strataOfAChain();
         clausesWithoutABody();
         oneMoreThanTheGreatest();
+        factsOfTheSameStage();
         lowerStrataCountNothing();
         theLeastStage();
         factsThatFollow();
@@ -198,6 +199,28 @@ public final class FollowTests {
         bench.count(6, 3);
     }
 
+    private static void factsOfTheSameStage() {
+        Bench.sentence("1 more than the greatest one: a fact of this stage is used at the next one");
+        Bench bench = Bench.with("p(0). p(1):-p(0). p(2):-p(1). q:-p(2). r:-p(1),p(0). s(X):-p(X),p(2). u:-q,p(1).", 9);
+        bench.stage("p(1)", 1);
+        bench.stage("p(2)", 2);
+        bench.stage("q", 3);
+        bench.stage("r", 2);
+        bench.stage("s(0)", 3);
+        bench.stage("s(2)", 3);
+        bench.stage("u", 4);
+        bench.load("p(0,0). p(1,X):-p(0,X). q(X):-p(1,X). p(X,1):-p(X,0). r(X):-p(X,1),p(1,X). q(X):-r(X),p(X,X).", -1);
+        bench.run(8);
+        bench.stage("p(1,0)", 1);
+        bench.stage("p(0,1)", 1);
+        bench.stage("p(1,1)", 2);
+        bench.stage("q(0)", 2);
+        bench.stage("r(0)", 2);
+        bench.stage("r(1)", 3);
+        bench.stage("q(1)", 3);
+        bench.count(6, 3);
+    }
+
     private static void lowerStrataCountNothing() {
         Bench.sentence("(those of lower ones count 0; 1, if there are none)");
         Bench bench = Bench.with("a. b :- a. c :- b. p :- c, not z. q :- p, c. r :- c, not y, q. s :- not y2, c, r."
@@ -283,24 +306,23 @@ public final class FollowTests {
 
     private static void longChains() {
         Bench.sentence("at the stage that is 1 more than the greatest one: many stages");
-        Bench bench = Bench.with(Bench.steps("n", 9) + "c(0,0,0,0)."
-            + " c(A,B,C,E):-c(A,B,C,D),n(D,E). c(A,B,D,0):-c(A,B,C,9),n(C,D)."
-            + " c(A,C,0,0):-c(A,B,9,9),n(B,C). c(B,0,0,0):-c(A,9,9,9),n(A,B).", 10009);
-        bench.count(6, 9999);
-        bench.stage("c(4,3,2,1)", 4321);
-        bench.stage("c(9,9,9,9)", 9999);
-        String chain = Bench.steps("e", 140);
+        Bench bench = Bench.with(Bench.steps("n", 9) + "c(0,0,0). c(A,B,D):-c(A,B,C),n(C,D)."
+            + " c(A,C,0):-c(A,B,9),n(B,C). c(B,0,0):-c(A,9,9),n(A,B).", 1009);
+        bench.count(6, 999);
+        bench.stage("c(3,2,1)", 321);
+        bench.stage("c(9,9,9)", 999);
+        String chain = Bench.steps("e", 40);
         String[] rules = {"t(X,Z):-t(X,Y),t(Y,Z).", "t(X,Z):-t(X,Y),e(Y,Z).", "t(X,Z):-e(X,Y),t(Y,Z).",
             "t(X,Z):-t(X,Y),t(Y,Z),not z(X). t(X,Z):-e(X,Y),t(Y,Z),t(X,Y). z(a)."};
-        int[] stages = {9, 140, 140, 9};
+        int[] stages = {7, 40, 40, 7};
         for (int i = 0; i < rules.length; i++) {
             bench = Bench.with(chain + "t(X,Y):-e(X,Y)." + rules[i] + "back(X,Y):-t(Y,X),not t(X,Y).",
-                i == 3 ? 19881 : 19880);
+                i == 3 ? 1681 : 1680);
             bench.count(6, stages[i]);
-            bench.stage("t(0,140)", stages[i]);
-            bench.ask("t(0,X),t(X,Y),t(Y,50),back(50,X)", 1176);
-            bench.ask("t(X,Y),back(Y,Z),t(Z,W),W=2,Y=140", 280);
-            bench.ask("t(X,_),t(_,X),back(X,_),back(_,X),t(_,_),back(_,_)", 139);
+            bench.stage("t(0,40)", stages[i]);
+            bench.ask("t(0,X),t(X,Y),t(Y,30),back(30,X)", 406);
+            bench.ask("t(X,Y),back(Y,Z),t(Z,W),W=2,Y=40", 80);
+            bench.ask("t(X,_),t(_,X),X<30", 29);
         }
     }
 }

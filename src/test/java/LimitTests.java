@@ -8,6 +8,7 @@ public final class LimitTests {
         seventhTerm();
         thirteenthLiteral();
         thirteenthVariable();
+        fullClauses();
         clause257();
         predicate65();
         predicatesCounted();
@@ -112,6 +113,19 @@ public final class LimitTests {
     }
 
     // ---------------------------------------------------------------- clauses and PREDICATEs
+
+    private static void fullClauses() {
+        Bench.sentence("3: too many: 256 clauses with 12 LITERALs each are not");
+        String clause = "p:-" + TWELVE + ".";
+        Bench bench = new Bench();
+        bench.load(clause.repeat(255) + "p:-q,q,q,q,q,q,q,q,q,q,q,1=1.", -1);
+        bench.counts(256, 2, 1, 1, -1, 0, -1);
+        bench.run(0);
+        bench = new Bench();
+        bench.load(clause.repeat(254) + "p:-q,q,q,q,q,q,q,q,q,q,q,not r.q.", -1);
+        bench.run(2);
+        bench.stage("p", 1);
+    }
 
     private static void clause257() {
         Bench.sentence("3: too many: the 257th clause");

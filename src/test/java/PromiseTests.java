@@ -23,13 +23,13 @@ public final class PromiseTests {
         runAgain();
         runUpToTheLimit();
         runBeyondTheLimit();
-        runInManyStages();
         ask();
         askWithoutVariables();
         askForOtherNames();
         askRefused();
         askBeforeARun();
         askUpToTheLimit();
+        manyCombinations();
         columns();
         isNumber();
         rowOrder();
@@ -209,6 +209,15 @@ public final class PromiseTests {
         bench.ask("q(a)", 0);
         bench.ask("q(X)", 2);
         bench.rows("1;2;");
+        Bench.sentence("load: .. a program, in place of the one before: no fact of that one follows");
+        for (String last : new String[] {"z", "y", "x", "z"}) {
+            bench.load("e(a,b). e(b," + last + "). t(X,Z):-e(X,Y),e(Y,Z). u(X):-t(a,X),not e(a,X).", -1);
+            bench.run(4);
+            bench.ask("u(X), e(_,X)", 1);
+            bench.rows(last + ";");
+            bench.ask("e(b,X)", 1);
+            bench.rows(last + ";");
+        }
         Bench.sentence("load: an empty tape is a program");
         bench.load(-1);
         bench.counts(0, 0, 0, 0, -1, 0, -1);
@@ -354,6 +363,10 @@ public final class PromiseTests {
         bench.count(6, 1);
         bench.run(20000);
         bench.ask("d(1,X), f(X,0)", 99);
+        bench.ask("f(0,X), d(X,Y), f(Y,1), X < 40, Y > 97", 39 * 2);
+        bench.ask("d(X,Y), f(Y,Z), X = 1, Z = 2", 99);
+        bench.ask("f(X,3), f(4,X), d(X,X), not f(X,5)", 1);
+        bench.rows("5;");
         Bench.with(pairs + "n(0).n(1):-n(2).d(0,0).f(0,1).z:-not n(0).", 20000).stage("d(0,0)", 0);
         Bench.with(pairs + "y:-not n(5).z:-not z2,y.", 20000).stratum("z", 1);
         Bench.with(pairs.replace("n(99).", ""), 99 + 99 * 99 + 99 * 98).stage("d(99,0)", -1);
@@ -391,26 +404,6 @@ public final class PromiseTests {
         bench.load(Bench.facts("n", 27) + "d(X,Y,Z):-n(X),n(Y),n(Z).", -1);
         bench.run(27 + 19683);
         bench.count(6, 1);
-    }
-
-    /** A counter from 00000 on, one fact a stage, that stops behind 19980. */
-    private static void runInManyStages() {
-        Bench.sentence("UnsupportedOperationException: more than 20000, one fact at each stage");
-        String counter = Bench.steps("n", 9) + "stop(1,9,9,8).c(0,0,0,0,0)."
-            + "c(A,B,C,D,F):-c(A,B,C,D,E),n(E,F),not stop(A,B,C,D).c(A,B,C,E,0):-c(A,B,C,D,9),n(D,E)."
-            + "c(A,B,D,0,0):-c(A,B,C,9,9),n(C,D).c(A,C,0,0,0):-c(A,B,9,9,9),n(B,C)."
-            + "c(1,0,0,0,0):-c(0,9,9,9,9).";
-        Bench bench = Bench.with(counter + Bench.facts("z", 9), 20000);
-        bench.count(6, 19980);
-        bench.stage("c(1,9,9,8,0)", 19980);
-        bench.stage("c(1,2,3,4,5)", 12345);
-        bench.stage("c(1,9,9,8,1)", -1);
-        bench.load(counter + Bench.facts("z", 10), -1);
-        bench.run(Bench.UNSUPPORTED);
-        bench.count(6, -1);
-        bench.load(counter.replace("stop(1,9,9,8)", "stop(1,9,9,0)"), -1);
-        bench.run(19911);
-        bench.count(6, 19900);
     }
 
     // ---------------------------------------------------------------- promise 7
@@ -564,11 +557,41 @@ public final class PromiseTests {
         bench.end(5, "nothing");
         bench.ask(-6);
         bench.fault(2);
+        Bench.sentence("ask: a question with a fault has no rows, be they too many or not");
+        bench.askRefused("n(X), n(Y), not n", 10, 16);
+        bench.askRefused("n(X), n(Y), Z = X", 11, 12);
+        bench.askRefused("n(X), n(Y),", 2, 11);
+        bench.askRefused("n(X), n(Y) n(Z)", 2, 11);
+        bench.askRefused("n(X), n(Y), n(#", 1, 14);
+        bench.columns(1);
+        bench.count(5, 51);
         Bench.sentence("more than 5000 rows: only different ones count");
         bench.ask("r(X,_), n(_), m(_), X != a", 100);
-        bench.ask("n(X), m(Y), n(_), m(_), n(_)", 5000);
-        bench.ask("r(_,_), n(_), n(_), n(_)", 1);
-        bench.ask("r(X,_), r(_,X), n(_), m(X)", 50);
+        bench.ask("n(X), m(Y), n(_)", 5000);
+        bench.ask("r(_,_), n(_)", 1);
+        bench.ask("r(X,_), r(_,X)", 51);
+    }
+
+    private static void manyCombinations() {
+        Bench.sentence("how many facts follow, with many ways to the same one");
+        String fifty = Bench.facts("n", 50);
+        Bench bench = Bench.with(fifty + "z:-n(A),n(B),n(C).y(A):-n(A),n(B),n(C).x:-n(A),n(B),n(C),A=B,C=a.", 101);
+        bench.stage("z", 1);
+        bench.stage("y(49)", 1);
+        bench.stage("x", -1);
+        bench.load(fifty + "z(A,B,C):-n(A),n(B),n(C).", -1);
+        bench.run(Bench.UNSUPPORTED);
+        Bench.sentence("all different values of its variables, with many ways to the same ones");
+        bench.load(fifty, -1);
+        bench.run(50);
+        bench.put("n(A),n(B),n(C)");
+        bench.ask(Bench.UNSUPPORTED);
+        bench.end(0, "nothing");
+        bench.ask("n(X),n(_),n(_)", 50);
+        bench.ask("n(_),n(_),n(_)", 1);
+        bench.ask("n(A),n(B),n(C),A=B,C=a", 0);
+        bench.ask("n(A),n(B),n(C),A=B,B=C,C=7", 1);
+        bench.rows("7,7,7;");
     }
 
     // ---------------------------------------------------------------- promises 8 to 11
