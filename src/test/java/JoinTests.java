@@ -7,30 +7,35 @@ public final class JoinTests {
     private static final String[] CONSTANTS = {"1", "a", "b"};
     private static final String[] TERMS = {"X", "Y", "_", "1", "a", "z"};
     private static final String[] BESIDE = {"", "m(X)", "m(Y)", "n(X,Y)", "n(Y,X)", "n(X,X)", "n(a,Y)"};
-    private static final List<String> FACTS = facts();
-    private static final String PROGRAM = String.join(".", FACTS) + ".";
+    /** Few facts, so that most of what a wrong search would find is none; and many. */
+    private static final List<String> FEW = List.of("m(1)", "m(b)", "n(1,a)", "n(a,a)", "n(b,b)", "n(b,1)", "n(1,b)",
+        "t(1,1,a)", "t(1,b,b)", "t(1,b,1)", "t(a,a,a)", "t(a,b,1)", "t(a,b,b)", "t(b,1,1)", "t(b,1,a)", "t(b,b,b)");
+    private static final List<String> MANY = List.of("m(a)", "m(b)", "n(a,1)", "n(a,b)", "n(b,a)", "n(a,a)",
+        "t(1,1,1)", "t(1,1,b)", "t(1,a,1)", "t(1,a,a)", "t(a,1,a)", "t(a,1,b)", "t(a,a,1)", "t(a,a,b)", "t(a,b,a)",
+        "t(b,1,b)", "t(b,a,1)", "t(b,a,a)", "t(b,b,1)", "t(b,b,a)", "t(b,b,b)");
+
+    private final List<String> facts;
+    private final String program;
+
+    private JoinTests(List<String> facts) {
+        this.facts = facts;
+        this.program = String.join(".", facts) + ".";
+    }
 
     public static void main(String[] args) {
         Bench.watch();
-        questions();
-        rules();
+        for (List<String> facts : List.of(FEW, MANY)) {
+            JoinTests tests = new JoinTests(facts);
+            tests.questions();
+            tests.rules();
+        }
         sixTerms();
         Bench.finish("JoinTests");
     }
 
-    private static List<String> facts() {
-        List<String> facts = new ArrayList<>(List.of("m(1)", "m(b)", "n(1,a)", "n(a,b)", "n(b,b)", "n(b,1)"));
-        for (int at = 0; at < 27; at++) {
-            if (at % 5 != 0 && at % 7 != 3) {
-                facts.add("t(" + CONSTANTS[at / 9] + "," + CONSTANTS[at / 3 % 3] + "," + CONSTANTS[at % 3] + ")");
-            }
-        }
-        return facts;
-    }
-
     // ---------------------------------------------------------------- questions
 
-    private static void questions() {
+    private void questions() {
         Bench.sentence("its rows are all different values of its variables but those that are _ (in the order in "
             + "which they first stand) with which it is so");
         for (String first : TERMS) {
@@ -42,16 +47,16 @@ public final class JoinTests {
         }
     }
 
-    private static void askBoth(String atom) {
-        Bench before = Bench.with(PROGRAM, FACTS.size());
-        Bench behind = Bench.with(PROGRAM, FACTS.size());
+    private void askBoth(String atom) {
+        Bench before = Bench.with(program, facts.size());
+        Bench behind = Bench.with(program, facts.size());
         for (String other : BESIDE) {
             ask(before, other.isEmpty() ? List.of(atom) : List.of(other, atom));
             ask(behind, other.isEmpty() ? List.of(atom, atom) : List.of(atom, other));
         }
     }
 
-    private static void ask(Bench bench, List<String> atoms) {
+    private void ask(Bench bench, List<String> atoms) {
         List<String> rows = rows(atoms, columns(atoms));
         bench.ask(String.join(",", atoms), rows.size());
         if (!columns(atoms).isEmpty()) {
@@ -70,7 +75,7 @@ public final class JoinTests {
         return x < y ? "XY" : "YX";
     }
 
-    private static List<String> rows(List<String> atoms, String columns) {
+    private List<String> rows(List<String> atoms, String columns) {
         List<String> rows = new ArrayList<>();
         String[] tried = columns.isEmpty() ? new String[] {""} : CONSTANTS;
         for (String first : tried) {
@@ -86,10 +91,10 @@ public final class JoinTests {
         return rows;
     }
 
-    private static boolean allFollow(String[] atoms) {
+    private boolean allFollow(String[] atoms) {
         for (String atom : atoms) {
             boolean found = false;
-            for (String fact : FACTS) {
+            for (String fact : facts) {
                 found |= fits(fact, atom);
             }
             if (!found) {
@@ -111,15 +116,15 @@ public final class JoinTests {
     // ---------------------------------------------------------------- rules
 
     /** A head that holds the values, and one behind it that needs a second stage. */
-    private static void rules() {
+    private void rules() {
         Bench.sentence("those of a clause's head, when its variables are replaced by constants so that each atom of "
             + "the body is a fact that follows");
         for (String first : TERMS) {
             for (String second : TERMS) {
                 for (String other : BESIDE) {
-                    StringBuilder text = new StringBuilder(PROGRAM);
+                    StringBuilder text = new StringBuilder(program);
                     List<Integer> amounts = new ArrayList<>();
-                    int sum = FACTS.size();
+                    int sum = facts.size();
                     for (String third : TERMS) {
                         String atom = "t(" + first + "," + second + "," + third + ")";
                         List<String> atoms = other.isEmpty() ? List.of(atom) : List.of(atom, other);
@@ -129,7 +134,7 @@ public final class JoinTests {
                         sum += 2 * rows;
                     }
                     Bench bench = Bench.with(text.toString(), sum);
-                    bench.count(6, sum > FACTS.size() ? 2 : 0);
+                    bench.count(6, sum > facts.size() ? 2 : 0);
                     for (int i = 0; i < amounts.size(); i++) {
                         bench.ask("h" + i + "(A,B)", amounts.get(i));
                         bench.ask("i" + i + "(B,A),h" + i + "(A,B)", amounts.get(i));
