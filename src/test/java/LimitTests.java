@@ -14,6 +14,7 @@ public final class LimitTests {
         predicatesCounted();
         constant1001();
         constantsCounted();
+        thousandConstants();
         constantsByValue();
         nameInABody();
         questionsHaveOnlyThree();
@@ -250,6 +251,24 @@ public final class LimitTests {
         bench.run(200);
         bench.ask("p(0,X,_,_,_), q(Y,_,_,_,c499)", 1);
         bench.rows("1,c495;");
+    }
+
+    private static void thousandConstants() {
+        Bench.sentence("the 1001st constant is too many: all of a thousand can be found, first and last");
+        Bench bench = Bench.with(Bench.constants("p", "", 1000) + "q(Y,X):-p(X,_,_,_,Y).r(X,Z):-q(Y,X),p(X,Z,_,_,Y).", 600);
+        bench.ask("p(X,Y,_,_,_), p(X,Y,Z,_,W)", 200);
+        bench.number(0, 3, 4);
+        bench.number(199, 0, 995);
+        bench.number(199, 1, 996);
+        bench.number(199, 2, 997);
+        bench.number(199, 3, 999);
+        bench.ask("q(X,Y), r(Y,Z), Z > 990", 2);
+        bench.rows("994,990,991;999,995,996;");
+        bench.ask("p(511,_,_,_,_)", 0);
+        bench.ask("p(_,511,X,_,_)", 1);
+        bench.rows("512;");
+        bench.stage("p(995,996,997,998,999)", 0);
+        bench.stage("r(995,996)", 2);
     }
 
     private static void constantsByValue() {
