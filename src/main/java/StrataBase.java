@@ -429,7 +429,7 @@ public final class StrataBase {
 
         /** Byte by byte, a beginning before what goes on. */
         int compare(int id, byte[] source, int from, int length) {
-            int common = Math.min(lengths[id], length);
+            int common = lengths[id] < length ? lengths[id] : length;
             for (int k = 0; k < common; k++) {
                 int order = text[starts[id] + k] - source[from + k];
                 if (order != 0) {
